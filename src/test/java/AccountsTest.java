@@ -9,6 +9,7 @@ final class AccountsTest {
         outFindingsInOrder();
         traceByThreeRules();
         laterInsDoNotPayEarlierOuts();
+        ownCoinGoesInTheOrderInWhichItCame();
         accountsAreApart();
         traceFindings();
         held();
@@ -148,6 +149,19 @@ final class AccountsTest {
         dueLeft(x, 0, 0, 0, 1);
         dueLeft(x, 1, 1, 0, 0);
         dueLeft(x, 2, 0, 0, 1);
+    }
+
+    private static void ownCoinGoesInTheOrderInWhichItCame() {
+        LienTower x = Towers.chain(1);
+        x.in(1, OWN, 5);
+        x.in(1, 0, 5);
+        x.in(1, OWN, 5);
+        x.out(1, 3);
+        dueLeft(x, 2, 2, 5, 5);
+        x.out(1, 3);
+        dueLeft(x, 2, 0, 5, 4);
+        x.out(1, 6);
+        dueLeft(x, 2, 0, 3, 0);
     }
 
     private static void accountsAreApart() {

@@ -275,12 +275,19 @@ final class ContractsTest {
         x.pay(0, 100);
         Due.is(x.of(0, 5), 500);
         Due.is(x.of(1, 5), 0);
+        x.waive(1, 40, 1);
+        x.waive(1, 30, 1);
+        x.pay(1, 35);
+        Due.is(x.of(1, 5), 30);
+        Due.is(x.waive(1, 34, 1), 34);
+        x.pay(1, 10);
+        Due.is(x.of(1, 5), 40);
         Due.is(x.waive(0, 1000000, 0), 1000000);
         Due.is(x.of(0, 6), 0);
         Due.is(x.of(0, 4), 500);
         Due.is(x.extra(0, 100000), 101000);
         Due.is(x.of(0, 6), 0);
-        Due.is(x.count(4), 8);
+        Due.is(x.count(4), 11);
     }
 
     private static void waiveIsFullForAllContractsTogether() {
