@@ -1,9 +1,13 @@
+import java.util.List;
+
 /** Compares answers with those that are due, and names the line of each that is wrong. */
 final class Due {
     static final int BEYOND = -1000000001;
     static final int STATE = -1000000003;
     static final int FULL = -1000000004;
     static final int KIND = -1000000005;
+
+    private static final List<String> HELPERS = List.of("Due", "Run", "Run$Made");
 
     private static int asked = 0;
     private static int wrong = 0;
@@ -41,7 +45,7 @@ final class Due {
 
     private static String caller() {
         for (StackTraceElement e : new Throwable().getStackTrace()) {
-            if (!e.getClassName().equals("Due")) {
+            if (!HELPERS.contains(e.getClassName())) {
                 return e.getFileName() + ":" + e.getLineNumber();
             }
         }

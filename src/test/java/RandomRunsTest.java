@@ -1,5 +1,5 @@
-import java.lang.reflect.Method;
 import java.util.ArrayDeque;
+import java.util.Arrays;
 import java.util.List;
 import java.util.Random;
 
@@ -18,8 +18,6 @@ final class RandomRunsTest {
         14, 16, 365, 366, 1000, 1001, 5000, 5001, 100000, 100001, 1000000, 1000001, 10000000,
         10000001, -1000000000};
 
-    private static final Method[] TOWER_CALLS = callsOf(LienTower.class);
-    private static final Method[] ORACLE_CALLS = callsOf(Oracle.class);
     private static final int CHECK = List.of(NAMES).indexOf("check");
 
     private final Random random;
@@ -162,33 +160,14 @@ final class RandomRunsTest {
     }
 
     private int ofTower(int call, int[] a) {
-        return answer(TOWER_CALLS[call], tower, a);
+        return Calls.answer(tower, NAMES[call], taken(call, a));
     }
 
     private int ofOracle(int call, int[] a) {
-        return answer(ORACLE_CALLS[call], oracle, a);
+        return Calls.answer(oracle, NAMES[call], taken(call, a));
     }
 
-    private static int answer(Method call, Object x, int[] a) {
-        Object[] taken = new Object[call.getParameterCount()];
-        for (int i = 0; i < taken.length; i++) {
-            taken[i] = a[i];
-        }
-        try {
-            return (int) call.invoke(x, taken);
-        } catch (ReflectiveOperationException e) {
-            throw new IllegalStateException(call.getName() + " threw", e);
-        }
-    }
-
-    private static Method[] callsOf(Class<?> owner) {
-        Method[] calls = new Method[NAMES.length];
-        for (Method m : owner.getDeclaredMethods()) {
-            int i = List.of(NAMES).indexOf(m.getName());
-            if (i >= 0) {
-                calls[i] = m;
-            }
-        }
-        return calls;
+    private static int[] taken(int call, int[] a) {
+        return Arrays.copyOf(a, Calls.parameters(NAMES[call]));
     }
 }
