@@ -19,6 +19,7 @@ final class ClaimEdgesTest {
         barOfFiling();
         barOfSuit();
         barOfOpen();
+        onlyTheSuitLooksAtTheDayOfJudging();
         barsInTheirOrder();
         worth();
         worthOfSeveral();
@@ -317,6 +318,19 @@ final class ClaimEdgesTest {
         barIs(FILED.then("waive 0 1001 0; extra 0 1"), 0, 0, 5);
         barIs(FILED.then("waive 0 1000 1"), 0, 0, 0);
         barIs(FILED.then("waive 0 1000 1; extra 0 1; pay 0 1000"), 0, 0, 0);
+    }
+
+    /** Of the bars 4 alone names the day; what was told later than it counts for all others. */
+    private static void onlyTheSuitLooksAtTheDayOfJudging() {
+        Run filed = Run.chain(2).then("began 1 0 0; file 1 5");
+        barIs(filed.then("day 20; notice 1"), 0, 0, 0);
+        barIs(filed.then("day 21; notice 1"), 0, 0, 2);
+        barIs(filed.then("notice 1; day 50; law 3 1"), 0, 0, 1);
+        barIs(filed.then("notice 1; day 50; pay 1 1000"), 0, 0, 5);
+        barIs(filed.then("notice 1; day 180; sue 0"), 0, 0, 0);
+        Run late = Run.row(1).then("began 0 0 0; day 91; file 0 5; day 200");
+        barIs(late.then("ended 0 0 1"), 0, 91, 13);
+        barIs(late.then("ended 0 0 0"), 0, 91, 3);
     }
 
     /** Contract 1 of two, by which of the bars hold: a ? behind one says that it may be. */

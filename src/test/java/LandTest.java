@@ -206,7 +206,7 @@ final class LandTest {
         dueShares(x, 200, 1, new int[] {50}, new int[] {40, 0});
         x.began(0, 0, 99);
         dueShares(x, 60, 1, new int[] {20}, new int[] {40, 0});
-        // A claim that only may be barred keeps its part of the bound, though it has no share.
+        // By more of the law's days both are GOOD, and the second has what is left of the bound.
         x.file(1, 90);
         Due.is(x.judge(2, 100), 1);
         x.law(1, 95);

@@ -19,15 +19,20 @@ final class RandomRunsTest {
         10000001, -1000000000};
 
     private static final int CHECK = List.of(NAMES).indexOf("check");
+    private static final int TELL = List.of(NAMES).indexOf("tell");
+    private static final int MOST_WAITING = 16;
 
+    private final int seed;
     private final Random random;
     private final LienTower tower = new LienTower();
     private final Oracle oracle = new Oracle();
     private final ArrayDeque<String> tail = new ArrayDeque<>();
     private final int amountScale;
     private final int dayScale;
+    private int asked = 0;
 
     private RandomRunsTest(int seed) {
+        this.seed = seed;
         random = new Random(seed);
         amountScale = new int[] {6, 40, 900, 60000}[random.nextInt(4)];
         dayScale = new int[] {1, 6, 40}[random.nextInt(3)];
@@ -35,29 +40,32 @@ final class RandomRunsTest {
 
     public static void main(String[] args) {
         for (int seed = 1; seed <= RUNS && Due.wrongSoFar() == 0; seed++) {
-            new RandomRunsTest(seed).run(seed);
+            new RandomRunsTest(seed).run();
         }
         Due.end();
     }
 
-    private void run(int seed) {
-        for (int i = 0; i < CALLS; i++) {
-            int call = i < 40 && random.nextInt(3) > 0 ? random.nextInt(5) : weighted();
+    private void run() {
+        while (asked < CALLS && Due.wrongSoFar() == 0) {
+            int call = asked < 40 && random.nextInt(3) > 0 ? random.nextInt(5) : weighted();
             int[] a = arguments(call);
             if (random.nextInt(60) == 0) {
                 a[random.nextInt(4)] = EDGES[random.nextInt(EDGES.length)];
             }
-            int want = ofOracle(call, a);
-            int got = ofTower(call, a);
-            tail.add(NAMES[call] + "(" + a[0] + ", " + a[1] + ", " + a[2] + ", " + a[3] + ") " + got);
-            if (got != want) {
-                tail.forEach(System.out::println);
-            }
-            Due.same("seed " + seed + ", call " + i + ", " + NAMES[call], got, want);
-            if (got != want) {
-                return;
-            }
+            compare(call, a);
         }
+    }
+
+    private void compare(int call, int... a) {
+        asked++;
+        int[] taken = Arrays.copyOf(a, Calls.parameters(NAMES[call]));
+        int want = Calls.answer(oracle, NAMES[call], taken);
+        int got = Calls.answer(tower, NAMES[call], taken);
+        tail.add(NAMES[call] + Arrays.toString(taken) + " " + got);
+        if (got != want) {
+            tail.forEach(System.out::println);
+        }
+        Due.same("seed " + seed + ", call " + asked + ", " + NAMES[call], got, want);
     }
 
     private int weighted() {
@@ -144,30 +152,15 @@ final class RandomRunsTest {
 
     /** Tells the right numbers first, or some of them, now and then with one wrong. */
     private int[] checkArguments(int coin) {
-        if (random.nextInt(3) > 0) {
-            ofOracle(CHECK, new int[] {0});
-            ofTower(CHECK, new int[] {0});
+        boolean isRoom = asked + 1 + MOST_WAITING < CALLS;
+        if (isRoom && random.nextInt(3) > 0) {
+            compare(CHECK, 0);
             int many = random.nextInt(oracle.claims() + 1);
             int wrong = random.nextInt(2 * many + 1);
             for (int i = 0; i < many; i++) {
-                int v = oracle.shareInSale(i, coin) + (i == wrong ? 1 : 0);
-                oracle.tell(v);
-                tower.tell(v);
-                tail.add("tell(" + v + ")");
+                compare(TELL, oracle.shareInSale(i, coin) + (i == wrong ? 1 : 0));
             }
         }
         return new int[] {coin, 0, 0, 0};
-    }
-
-    private int ofTower(int call, int[] a) {
-        return Calls.answer(tower, NAMES[call], taken(call, a));
-    }
-
-    private int ofOracle(int call, int[] a) {
-        return Calls.answer(oracle, NAMES[call], taken(call, a));
-    }
-
-    private static int[] taken(int call, int[] a) {
-        return Arrays.copyOf(a, Calls.parameters(NAMES[call]));
     }
 }
